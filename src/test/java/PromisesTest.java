@@ -461,6 +461,8 @@ public final class PromisesTest {
         due("far", x.far(12), 2);
         due("there", x.far(14), 0);
         due("none", x.far(35), NONE);
+        due("no rope", x.far(15), NONE);
+        due("no rope", x.far(7), NONE);
         x.deer(0, DOWN);
         x.deer(6, DOWN);
         x.straw(1, true);
@@ -643,6 +645,9 @@ public final class PromisesTest {
         due("three", x.fit(14, 3, -1), 12);
         due("nobody there", x.fit(0, 2, -2), NONE);
         due("nobody there", x.fit(0, 2, 1), NONE);
+        due("from the middle", x.fit(14, 2, -2), 0);
+        due("from the middle", x.fit(14, 2, 0), 14);
+        due("from the middle", x.fit(14, 2, 1), 8);
         due("first of like ones", x.fit(0, 5, -2), 4);
         int[] first = {0, 1, 2, 8, 14};
         for (int k = 0; k < 5; k++) {
@@ -710,7 +715,11 @@ public final class PromisesTest {
             due("middle", x.set(1, 13), 13);
             due("door", x.set(2, 7), 7);
             due("seen", x.count(6), 2);
-            due("seen", x.fit(0, 3, -1), 3 - 1);
+            due("seen", x.fit(0, 3, -1), 2);
+            due("seen corn", x.fit(13, 4, -1), 0);
+            due("the last one", x.plough(15), 6);
+            due("the last one", x.back(1), 5);
+            due("ploughed", x.plough(8), NOT);
             due("the tape goes on", x.type('3', 1), 2);
             due("the tape goes on", x.furrow(), 1);
             due("the tape goes on", x.told(21, 0), 0);
@@ -865,6 +874,21 @@ public final class PromisesTest {
             due("far of 14", x.told(0, 0), 0);
             x.restore();
         }
+        // All is open to a child, but far is of one who is none.
+        x = with("21r");
+        x.set(0, 3);
+        x.straw(1, true);
+        x.sheet(0, 2, 36);
+        due("film", x.film(0, 2, 0), 36);
+        due("no way for a child alone", x.go(0, 2, 1, 1), NOT);
+        due("of 13", x.go(0, 2, 13, 1), 1);
+        due("of 13", x.told(1, 0), 0);
+        x.set(0, 2);
+        x.film(0, 2, 0);
+        due("low corn, of 8", x.go(0, 2, 8, 1), 1);
+        due("low corn, of 8", x.told(1, 0), 0);
+        due("low corn, of 35", x.go(0, 2, 35, 1), 1);
+        due("low corn, of 35", x.told(6, 0), 0);
     }
 
     private static void constants() {
