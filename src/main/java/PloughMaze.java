@@ -915,7 +915,7 @@ public final class PloughMaze {
     private static final class Tape {
         private final int[] typed = new int[TAPE_LENGTH];
         private int size = 0;
-        private final int[] text = new int[TAPE_LENGTH];
+        // What is read stays behind in the row when the tape is empty again.
         private int length = 0;
         private int place = 0;
         private long readGaps = 0L;
@@ -947,22 +947,24 @@ public final class PloughMaze {
             return true;
         }
 
-        /** The text is the tape without blanks, since they count in no place; the tape is empty then. */
+        /** The tape is empty then, whatever is read of it. */
         void takeText() {
-            length = 0;
-            place = 0;
-            for (int i = 0; i < size; i++) {
-                if (typed[i] != BLANK) {
-                    text[length] = typed[i];
-                    length++;
-                }
-            }
+            length = size;
             size = 0;
+            place = -1;
+            advance();
+        }
+
+        /** To the next byte that is no blank, or to the end: blanks have places, but are no faults. */
+        private void advance() {
+            do {
+                place++;
+            } while (place < length && typed[place] == BLANK);
         }
 
         /** The byte at the place, a blank behind the end: no blank may stand in a text. */
         private int letter() {
-            return place < length ? text[place] : BLANK;
+            return place < length ? typed[place] : BLANK;
         }
 
         private int fault() {
@@ -979,7 +981,7 @@ public final class PloughMaze {
                 if (!into.add(Grid.next(into.lastSquare(), side))) {
                     return fault();
                 }
-                place++;
+                advance();
             }
             return into.size;
         }
@@ -997,7 +999,7 @@ public final class PloughMaze {
                 if (letter() != ',' || parts == MOST_PARTS) {
                     return fault();
                 }
-                place++;
+                advance();
             }
             return fault();
         }
@@ -1012,7 +1014,7 @@ public final class PloughMaze {
             if (edge == 0L) {
                 return false;
             }
-            place++;
+            advance();
             if (letter() == '+' && (readCorn & edge) == 0L) {
                 readGaps |= edge;
             } else if (letter() == '-' && (readGaps & edge) == 0L) {
@@ -1020,7 +1022,7 @@ public final class PloughMaze {
             } else {
                 return false;
             }
-            place++;
+            advance();
             return true;
         }
 
@@ -1038,7 +1040,7 @@ public final class PloughMaze {
             if (digit < 0 || digit >= WIDTH) {
                 return NONE;
             }
-            place++;
+            advance();
             return digit;
         }
     }

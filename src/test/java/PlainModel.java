@@ -193,13 +193,23 @@ final class PlainModel {
         return tape.length();
     }
 
+    /** The place on the tape of the i-th byte that is no blank; that of the end, if there are not so many. */
+    private static int fault(String typed, int i) {
+        int place = 0;
+        for (int left = i; place < typed.length() && (typed.charAt(place) == ' ' || left > 0); place++) {
+            left -= typed.charAt(place) == ' ' ? 0 : 1;
+        }
+        return -20 - place;
+    }
+
     int furrow() {
+        String typed = tape;
         String text = tape.replace(" ", "");
         tape = "";
         List<Integer> f = new ArrayList<>();
         for (int i = 0; i < 2; i++) {
             if (i >= text.length() || !in(text.charAt(i), '0', '5')) {
-                return -20 - i;
+                return fault(typed, i);
             }
         }
         f.add((text.charAt(0) - '0') * 6 + text.charAt(1) - '0');
@@ -207,7 +217,7 @@ final class PlainModel {
             int side = "ulrd".indexOf(text.charAt(i));
             int to = side < 0 ? -1 : next(f.get(f.size() - 1), side);
             if (to < 0 || f.contains(to)) {
-                return -20 - i;
+                return fault(typed, i);
             }
             f.add(to);
         }
@@ -216,6 +226,7 @@ final class PlainModel {
     }
 
     int seen() {
+        String typed = tape;
         String text = tape.replace(" ", "");
         tape = "";
         List<int[]> told = new ArrayList<>();
@@ -223,13 +234,13 @@ final class PlainModel {
             char c = i < text.length() ? text.charAt(i) : 0;
             int inPart = i % 5;
             if (inPart < 2 && !in(c, '0', '5')) {
-                return -20 - i;
+                return fault(typed, i);
             }
             if (inPart == 2) {
                 int side = c == 0 ? -1 : "ulrd".indexOf(c);
                 int a = (text.charAt(i - 2) - '0') * 6 + text.charAt(i - 1) - '0';
                 if (side < 0 || next(a, side) < 0) {
-                    return -20 - i;
+                    return fault(typed, i);
                 }
                 told.add(new int[] {a, next(a, side), 0});
             }
@@ -237,7 +248,7 @@ final class PlainModel {
                 int[] now = told.get(told.size() - 1);
                 now[2] = c;
                 if (c != '+' && c != '-' || told.stream().anyMatch(t -> unlike(t, now))) {
-                    return -20 - i;
+                    return fault(typed, i);
                 }
             }
             if (inPart == 4 && c == 0) {
@@ -245,7 +256,7 @@ final class PlainModel {
                 return told.size();
             }
             if (inPart == 4 && (c != ',' || told.size() == 12)) {
-                return -20 - i;
+                return fault(typed, i);
             }
         }
         throw new IllegalStateException(text);
