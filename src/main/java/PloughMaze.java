@@ -672,17 +672,16 @@ public final class PloughMaze {
             }
         }
 
-        /** Whether it went; one that did not stays for good. */
-        boolean step(Field field) {
+        /** One that finds no side stays, and as nothing has changed then, it stays for good. */
+        void step(Field field) {
             int to = chosenSide(field);
             int next = Grid.next(square, to);
             if (next < 0) {
-                return false;
+                return;
             }
             marks[square]++;
             square = next;
             side = to;
-            return true;
         }
 
         /** All look around to the right: who is blind from ahead on, the others from their left on. */
@@ -976,7 +975,8 @@ public final class PloughMaze {
             if (!into.add(readSquare())) {
                 return fault();
             }
-            while (place < length) {
+            // Behind all squares none can be added: the loop ends by a fault, or at the end of the text, before its bound.
+            for (int steps = 0; steps < SQUARES && place < length; steps++) {
                 int side = Grid.sideOfLetter(letter());
                 if (!into.add(Grid.next(into.lastSquare(), side))) {
                     return fault();
