@@ -70,7 +70,9 @@ public final class ReadmeTest {
                 }
             }
         }
-        check("calls are shown: " + shown, shown.size() > 20);
+        for (String call : RulesTest.FACE) {
+            check(call + " is shown", shown.contains(call.substring(0, call.indexOf('('))));
+        }
     }
 
     private static int answer(PloughMaze x, String name, String given) throws ReflectiveOperationException {

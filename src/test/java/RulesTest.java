@@ -46,7 +46,8 @@ public final class RulesTest {
         check("the class is public and final, and of no other kind",
             PloughMaze.class.getModifiers() == (Modifier.PUBLIC | Modifier.FINAL));
         check("it stands without a package", PloughMaze.class.getPackageName().isEmpty());
-        check("it is nobody's heir", PloughMaze.class.getSuperclass() == Object.class && PloughMaze.class.getInterfaces().length == 0);
+        check("it is nobody's heir",
+            PloughMaze.class.getSuperclass() == Object.class && PloughMaze.class.getInterfaces().length == 0);
         Constructor<?>[] makers = PloughMaze.class.getDeclaredConstructors();
         check("one constructor, public, that takes nothing", makers.length == 1
             && makers[0].getModifiers() == Modifier.PUBLIC && makers[0].getParameterCount() == 0);
@@ -99,7 +100,7 @@ public final class RulesTest {
     private static void inside(TreeSet<String> names) {
         for (Class<?> inside : PloughMaze.class.getDeclaredClasses()) {
             check(inside + " is static", Modifier.isStatic(inside.getModifiers()));
-            check(inside + " is not public", !Modifier.isPublic(inside.getModifiers()) && !Modifier.isProtected(inside.getModifiers()));
+            check(inside + " is not public", (inside.getModifiers() & (Modifier.PUBLIC | Modifier.PROTECTED)) == 0);
             for (Method method : inside.getDeclaredMethods()) {
                 names.add(method.getName());
             }
